@@ -658,12 +658,14 @@ public final class BackCourt {
             return found.meets(goal, i);
         }
         for (int c = first; c < bench.size; c++) {
-            bench.filed[c]++;
-            boolean reached = canReach(goal, i, more - 1, c);
-            bench.filed[c]--;
-            if (reached) {
-                picked[more - 1] = c;
-                return true;
+            if (bench.isMovedByOneMore(c)) {
+                bench.filed[c]++;
+                boolean reached = canReach(goal, i, more - 1, c);
+                bench.filed[c]--;
+                if (reached) {
+                    picked[more - 1] = c;
+                    return true;
+                }
             }
         }
         return false;
@@ -1089,6 +1091,11 @@ public final class BackCourt {
             if (within(i, size)) {
                 cited[i] = 0;
             }
+        }
+
+        /** A row with one FILED for nothing does what a shorter row does, which was tried ahead of it. */
+        boolean isMovedByOneMore(int i) {
+            return kind[i] != ROCK && filed[i] < (kind[i] == FIRM ? 2 : 1);
         }
 
         boolean isToStand(int i, int set) {
