@@ -587,7 +587,7 @@ public final class BackCourt {
         return own == kind || own == CHAINED && kind == BOUND || own == ROCK && kind == FIRM;
     }
 
-    /** The bound is above 0, so 1 at least is met. */
+    /** Counts down, so that its end is seen: neither number is above 512. Never 0, so it can divide. */
     private static int greatestDivisor(int a, int b) {
         for (int d = b; d > 1; d--) {
             if (a % d == 0 && b % d == 0) {
