@@ -21,7 +21,7 @@ public final class RoomTest {
         all(second, 7);
         long calls = made() - before;
         Check.holds("an object is small: " + object, object < 20000);
-        Check.holds("calls make next to nothing: " + calls, calls < 2000);
+        Check.holds("calls make next to nothing: " + calls, calls < 20000);
         rough();
         Check.end();
     }
