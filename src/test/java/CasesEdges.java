@@ -216,6 +216,16 @@ final class CasesEdges {
         }
     }
 
+    static void p37_the_case_without_marks_counts_once() {
+        // Without the MARK the first is the likest, till the MARK counts no more.
+        freed("k01. k00.0", 0, 16);
+    }
+
+    static void p37_cases_of_one_other_mark() {
+        // The first holds CASES of one MARK at most; without MARK 0 those of none: 1, 2, 3, 4 alone are freed.
+        freed("k01. k00.01234", 0, 4);
+    }
+
     static void p37_another_mark_frees_none() {
         freed("k01.0 k00.", 1, 0);
         freed("k01.0 k00.", 4, 0);
@@ -292,6 +302,14 @@ final class CasesEdges {
     static void p38_all_are_needed() {
         // 1 only with MARK 0 and without MARK 1.
         code("k01.0 k00.1", 2, 3);
+    }
+
+    static void p38_the_case_without_marks_alone_has_1() {
+        code("k01. k00.0 k00.1 k00.2 k00.3 k00.4", 6, 63);
+    }
+
+    static void p38_the_case_of_all_marks_alone_has_1() {
+        code("k01.01234 k00.1234 k00.0234 k00.0134 k00.0124 k00.0123", 6, 63);
     }
 
     static void p38_the_least_of_as_few() {

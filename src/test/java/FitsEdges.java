@@ -299,6 +299,13 @@ final class FitsEdges {
         Check.dueRuling(x, 7, 1, 3, 1, 5, -1, 0, 0);
     }
 
+    static void p42_of_four_of_a_lesser_day_the_first() {
+        // 188 is divided by 4.
+        BackCourt x = busy("r90. r20. r00. r30. r10. r20.");
+        x.lots(1, 1);
+        Check.dueRuling(x, 6, 1, 3, 1, 1, -1, 0, 0);
+    }
+
     static void p42_cites_those_of_the_same_lots() {
         // 182605794 is of DAY 4, and 48271 ahead of it of DAY 3.
         BackCourt x = busy("k90.");

@@ -170,6 +170,80 @@ final class TermsEdges {
         Check.due("mark(0, 2)", x.mark(0, 2), 3);
     }
 
+    // ---- what was asked before
+
+    private static final String[] COURTS = {"u00. k10+0. b20+1. c20+0.", "u00. k10. b20. c20.", "f00. k10-0. r20-0. u20+1.",
+        "c00. c00. r50-0. b50+1.", "r00. b10-0. r20. u30-2.", "k90. k80. k70. k60."};
+
+    /** Of a COURT of four all that can be asked without changing it, but for ROWS. */
+    private static long[] answers(BackCourt x) {
+        long[] all = new long[130];
+        int n = 0;
+        for (int set = 0; set < 16; set++) {
+            all[n++] = x.due(set);
+            all[n++] = x.forged(set);
+            all[n++] = x.torn(set, 15);
+        }
+        for (int i = 0; i < 4; i++) {
+            all[n++] = x.matter(i);
+            all[n++] = x.kinds(i, 15);
+            all[n++] = x.kinds(i, 6);
+            all[n++] = x.flips(i);
+            all[n++] = x.fell(i, 0);
+            all[n++] = x.guard(i, 0);
+            all[n++] = x.odds(i);
+            all[n++] = x.together(i);
+            all[n++] = x.mark(i, 5);
+        }
+        for (int day = 0; day < 10; day++) {
+            all[n++] = x.till(day);
+        }
+        all[n++] = x.judge();
+        all[n++] = x.settle(0);
+        all[n++] = x.jam();
+        all[n++] = x.kinds(3, 9);
+        all[n++] = x.sure();
+        all[n++] = x.ways();
+        all[n++] = x.code();
+        all[n++] = x.freed(0);
+        return all;
+    }
+
+    static void terms_what_was_asked_of_the_court_before_leaves_nothing() {
+        for (String before : COURTS) {
+            for (String signs : COURTS) {
+                long[] want = answers(Check.court(signs));
+                BackCourt x = Check.court(before);
+                answers(x);
+                Check.write(x, 0, signs);
+                x.court(0);
+                Check.holds(signs + " behind " + before, java.util.Arrays.equals(answers(x), want));
+            }
+        }
+    }
+
+    static void terms_days_not_told_and_rulings_left_out_are_there_again() {
+        for (String signs : COURTS) {
+            long[] want = answers(Check.court(signs));
+            BackCourt x = Check.court(signs);
+            for (int day = 0; day < 10; day++) {
+                x.till(day);
+                Check.due("due(15) behind till(" + day + ") of " + signs, x.due(15), Check.court(signs).due(15));
+            }
+            x.till(0);
+            Check.holds("behind till(0) of " + signs, java.util.Arrays.equals(answers(x), want));
+            x.matter(0);
+            Check.due("due(15) behind matter(0) of " + signs, x.due(15), Check.court(signs).due(15));
+        }
+    }
+
+    static void terms_what_is_asked_twice_is_answered_alike() {
+        for (String signs : COURTS) {
+            BackCourt x = Check.court(signs);
+            Check.holds(signs, java.util.Arrays.equals(answers(x), answers(x)));
+        }
+    }
+
     // ---- lots
 
     static void terms_lots_go_on_from_the_number_ahead() {

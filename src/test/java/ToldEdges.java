@@ -501,6 +501,15 @@ final class ToldEdges {
         Check.due("digest()", x.digest(), y.digest());
     }
 
+    static void p49_a_torn_row_and_a_struck_court_are_as_never_there() {
+        BackCourt x = new BackCourt();
+        Check.rowOf(x, 3, 5, 6);
+        x.tear(3);
+        x.lots(9, 7);
+        x.strike(0);
+        Check.due("digest()", x.digest(), new BackCourt().digest());
+    }
+
     static void p49_what_was_told_and_found_is_not_in_it() {
         BackCourt x = busy();
         long before = x.digest();

@@ -123,6 +123,10 @@ final class WaysEdges {
         due("u00. r10+0. r10-0.", 4, 6);
     }
 
+    static void p20_a_rumour_by_one_against_that_falls_falls() {
+        due("k00. u10. u20-1.", 1, 1);
+    }
+
     static void p20_a_chained_one_alone_of_its_day_falls() {
         due("c00. r10.", 2, 2);
         due("c00. r10.", 3, 2);
