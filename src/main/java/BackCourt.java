@@ -640,35 +640,45 @@ public final class BackCourt {
     private int fewest(int goal, int i, int r) {
         bench.seat(court);
         for (int n = 0; n <= FILED_MOST; n++) {
-            if (canReach(goal, i, n, 0)) {
+            if (canReach(goal, i, n)) {
                 rows[r].renew(n, 0);
-                for (int k = 0; k < n; k++) {
-                    rows[r].values[k] = picked[n - 1 - k];
-                }
+                System.arraycopy(picked, 0, rows[r].values, 0, n);
                 return n;
             }
         }
         return NONE;
     }
 
-    /** Goes through rows of more RULINGS to be FILED, rising, each CITING none ahead of a first one. */
-    private boolean canReach(int goal, int i, int more, int first) {
-        if (more <= 0 || more > FILED_MOST) {
-            found.find(bench);
-            return found.meets(goal, i);
+    /** A row of n numbers is told by one number, its figures being those, so that the first row comes first. */
+    private boolean canReach(int goal, int i, int n) {
+        int bound = 1;
+        for (int k = 0; k < n; k++) {
+            bound *= RULINGS;
         }
-        for (int c = first; c < bench.size; c++) {
-            if (bench.isMovedByOneMore(c)) {
-                bench.filed[c]++;
-                boolean reached = canReach(goal, i, more - 1, c);
-                bench.filed[c]--;
-                if (reached) {
-                    picked[more - 1] = c;
+        for (int figures = 0; figures < bound; figures++) {
+            if (pick(figures, n) && bench.fileAgainst(picked, n)) {
+                found.find(bench);
+                if (found.meets(goal, i)) {
                     return true;
                 }
             }
         }
         return false;
+    }
+
+    /** False, if they are not rising, or not all there. */
+    private boolean pick(int figures, int n) {
+        int left = figures;
+        int most = court.size - 1;
+        for (int k = n - 1; k >= 0; k--) {
+            picked[k] = left % RULINGS;
+            if (picked[k] > most) {
+                return false;
+            }
+            most = picked[k];
+            left /= RULINGS;
+        }
+        return true;
     }
 
     private int changedWithout(int absent) {
@@ -1093,8 +1103,22 @@ public final class BackCourt {
             }
         }
 
-        /** A row with one FILED for nothing does what a shorter row does, which was tried ahead of it. */
-        boolean isMovedByOneMore(int i) {
+        /** False, if one is FILED for nothing: a shorter row, which was tried ahead, does the same then. */
+        boolean fileAgainst(int[] row, int n) {
+            for (int i = 0; i < size; i++) {
+                filed[i] = 0;
+            }
+            for (int k = 0; k < n && k < row.length; k++) {
+                int c = row[k];
+                if (!within(c, size) || !isMovedByOneMore(c)) {
+                    return false;
+                }
+                filed[c]++;
+            }
+            return true;
+        }
+
+        private boolean isMovedByOneMore(int i) {
             return kind[i] != ROCK && filed[i] < (kind[i] == FIRM ? 2 : 1);
         }
 
@@ -1161,7 +1185,8 @@ public final class BackCourt {
             inSome = 0;
             for (int set = 0; set <= every; set++) {
                 int clash = bench.clash(set);
-                if (clash != 0) {
+                if (clash > 0) {
+                    // Bits are only ever put in, so that the counter never goes back.
                     set |= clash - 1;
                 } else if (number < sets.length) {
                     sets[number] = set;

@@ -7,7 +7,9 @@ import java.util.regex.Pattern;
 
 /** All promises: runs of calls by chance, each answered by a slow model that was written from the document alone. */
 public final class ModelTest {
-    private static final int RUNS = 300, CALLS = 150;
+    private static final int RUNS = 800;
+    /** An object is used for so many calls at most; to write a text, the dearest thing here, takes up to 83 of them. */
+    private static final int CALLS = 512, DEAREST = 83;
 
     public static void main(String[] args) {
         for (int seed = 0; seed < RUNS; seed++) {
@@ -20,12 +22,15 @@ public final class ModelTest {
         Random chance = new Random(seed);
         BackCourt x = new BackCourt();
         Model m = new Model();
-        for (int k = 0; k < CALLS; k++) {
+        // Most runs have a court from the first call on, as there are not many calls; the others meet a new object.
+        int used = seed % 4 == 0 ? 0 : write(x, m, signs(chance), 0);
+        for (int k = 0; used + DEAREST <= CALLS; k++) {
             int[] call = call(chance, m);
             if (call[0] == WRITE) {
-                write(x, m, signs(chance), call[1]);
+                used += write(x, m, signs(chance), call[1]);
                 continue;
             }
+            used += 6;
             long got = ask(x, call);
             long want = ask(m, call);
             String name = "seed " + seed + " call " + k + ": " + NAMES[call[0]] + Arrays.toString(call);
@@ -123,7 +128,8 @@ public final class ModelTest {
         return all.substring(0, Math.min(80, all.length()));
     }
 
-    private static void write(BackCourt x, Model m, String signs, int t) {
+    /** How many calls it took. */
+    private static int write(BackCourt x, Model m, String signs, int t) {
         int text = Math.max(0, Math.min(3, t));
         x.text(text, signs.length());
         m.text(text, signs.length());
@@ -133,6 +139,7 @@ public final class ModelTest {
         }
         Check.due("fault of '" + signs + "'", x.fault(text), m.fault(text));
         Check.due("court of '" + signs + "'", x.court(text), m.court(text));
+        return signs.length() + 3;
     }
 
     private static long ask(BackCourt x, int[] c) {

@@ -45,8 +45,6 @@ public final class RulesTest {
     private static final Path SOURCE = Path.of("src/main/java/BackCourt.java");
     private static final Set<String> LIBRARY = Set.of("Integer.bitCount", "Math.max", "Math.min", "System.arraycopy");
     private static final Set<String> PLAIN = Set.of("int", "long", "short", "byte", "char", "boolean");
-    /** The one method that calls itself: its depth is an argument, 3 at most. */
-    private static final Set<String> RECURSIVE = Set.of("canReach");
     private static final int DEEPEST = 8, LONGEST = 60, CLASSES = 12, FIELDS = 20, PARAMETERS = 7;
 
     public static void main(String[] args) throws Exception {
@@ -281,9 +279,9 @@ public final class RulesTest {
             for (Element from : calls.keySet()) {
                 Set<Element> reached = new HashSet<>();
                 calls.get(from).forEach(to -> reach(to, reached));
-                boolean isItself = reached.contains(from);
-                Check.holds("rule 8: " + from + " calls itself", isItself == RECURSIVE.contains(from.getSimpleName().toString()));
-                int depth = depth(from);
+                // None needs recursion; one that would must be of a form that rule 8 names, with its depth looked at here.
+                Check.holds("rule 8: " + from + " does not come to itself", !reached.contains(from));
+                int depth = depth(from, DEEPEST);
                 Check.holds("rule 11: calls of " + from + " go " + depth + " deep", depth <= DEEPEST);
             }
         }
@@ -294,11 +292,11 @@ public final class RulesTest {
             }
         }
 
-        /** A method that calls itself counts once, as those calls are recursion. */
-        private int depth(Element from) {
+        /** Looks no further than one level past what is right, so that it ends for recursion, too. */
+        private int depth(Element from, int further) {
             int deepest = 0;
-            for (Element to : calls.getOrDefault(from, Set.of())) {
-                deepest = Math.max(deepest, to.equals(from) ? 0 : depth(to));
+            for (Element to : further == 0 ? Set.<Element>of() : calls.getOrDefault(from, Set.of())) {
+                deepest = Math.max(deepest, depth(to, further - 1));
             }
             return deepest + 1;
         }
